@@ -62,7 +62,7 @@ public final class YesNoRays {
         spread = new Spread(web);
         oddFrames = new Parity(web);
         turner = new Turner(told, web);
-        question = new Question(tape, told, web, chooser);
+        question = new Question(tape, told, web);
         acts = new Acts();
         saidBytes = new byte[SAID_BYTES];
         faultPlace = NONE;
@@ -357,10 +357,13 @@ public final class YesNoRays {
             throw new IllegalArgumentException("no question of so many bytes");
         }
         refresh();
-        int fault = question.read(n);
+        int fault = question.read(n, 0);
         if (fault != 0) {
             faultPlace = tape.start;
             return -1000000000 - fault;
+        }
+        if (question.asksYes) {
+            question.read(n, chooser.leastChoice());
         }
         faultPlace = NONE;
         return question.answer();
@@ -485,6 +488,7 @@ public final class YesNoRays {
         private static final int WORD = 1;
         private static final int NUMBER = 2;
         private static final int SIGN = 3;
+        private static final int BLANK = 4;
         // Above every number that is told, so that a row of many figures need not be counted out.
         private static final int TOO_LARGE = 1000000;
 
@@ -514,34 +518,31 @@ public final class YesNoRays {
         }
 
         void next() {
-            start = length;
-            kind = END;
-            for (int i = behind; i < length && kind == END; i++) {
-                if (!isBlank(i)) {
-                    start = i;
-                    kind = isLetter(i) ? WORD : isFigure(i) ? NUMBER : SIGN;
+            int first = behind;
+            for (int i = behind; i < length && kindOf(byteAt(i)) == BLANK; i++) {
+                first = i + 1;
+            }
+            start = first;
+            kind = first < length ? kindOf(byteAt(first)) : END;
+            behind = kind == SIGN ? first + 1 : first;
+            number = 0;
+            boolean isRow = kind == WORD || kind == NUMBER;
+            for (int i = first; isRow && i < length && kindOf(byteAt(i)) == kind; i++) {
+                behind = i + 1;
+                if (kind == NUMBER) {
+                    number = Math.min(TOO_LARGE, number * 10 + byteAt(i) - '0');
                 }
             }
-            behind = start < length ? start + 1 : length;
-            if (kind == WORD) {
-                readWord();
-            } else if (kind == NUMBER) {
-                readNumber();
-            }
         }
 
-        private void readWord() {
-            for (int i = behind; i < length && isLetter(i); i++) {
-                behind = i + 1;
+        private static int kindOf(int b) {
+            if (b >= 'a' && b <= 'z') {
+                return WORD;
             }
-        }
-
-        private void readNumber() {
-            number = byteAt(start) - '0';
-            for (int i = behind; i < length && isFigure(i); i++) {
-                number = Math.min(TOO_LARGE, number * 10 + byteAt(i) - '0');
-                behind = i + 1;
+            if (b >= '0' && b <= '9') {
+                return NUMBER;
             }
+            return b == 32 || b == 10 ? BLANK : SIGN;
         }
 
         boolean isEnd() {
@@ -566,21 +567,6 @@ public final class YesNoRays {
                 }
             }
             return true;
-        }
-
-        private boolean isBlank(int i) {
-            int b = byteAt(i);
-            return b == 32 || b == 10;
-        }
-
-        private boolean isLetter(int i) {
-            int b = byteAt(i);
-            return b >= 'a' && b <= 'z';
-        }
-
-        private boolean isFigure(int i) {
-            int b = byteAt(i);
-            return b >= '0' && b <= '9';
         }
 
         private int byteAt(int i) {
@@ -996,7 +982,10 @@ public final class YesNoRays {
             int fresh = yesSet & ~spread;
             // Each round but the last makes one more ray yes.
             for (int round = 0; round < MOST_RAYS + 2; round++) {
-                no |= barredBy(fresh);
+                for (int i = 0; i < MOST_RAYS && fresh != 0; i++) {
+                    no |= at(barred, least(fresh));
+                    fresh &= fresh - 1;
+                }
                 if ((yes & no) != 0) {
                     return false;
                 }
@@ -1010,16 +999,6 @@ public final class YesNoRays {
                 yes |= fresh;
             }
             return false;
-        }
-
-        private int barredBy(int set) {
-            int found = 0;
-            int rest = set;
-            for (int i = 0; i < MOST_RAYS && rest != 0; i++) {
-                found |= at(barred, least(rest));
-                rest &= rest - 1;
-            }
-            return found;
         }
 
         /** The rays that are the last of a frame without a yes; NONE, if a frame has no ray left. */
@@ -1040,11 +1019,7 @@ public final class YesNoRays {
             return found;
         }
 
-        boolean fits() {
-            return force(0, 0, 0) && fitsFrom(yes, no, 0);
-        }
-
-        // Only frames are tried: where each has its yes, all other rays can be no.
+        /** Whether there is a choice; only frames are tried: where each has its yes, all other rays can be no. */
         private boolean fitsFrom(int yesSet, int noSet, int depth) {
             int open = narrowest(yesSet, noSet);
             if (open == 0) {
@@ -1220,17 +1195,14 @@ public final class YesNoRays {
 
         boolean isAllRefused() {
             if (allRefused == NONE) {
-                allRefused = all.fits() ? 0 : 1;
+                allRefused = all.fitsFrom(0, 0, 0) ? 0 : 1;
             }
             return allRefused == 1;
         }
 
         boolean refuses(int set) {
-            if (set == web.in) {
-                return isAllRefused();
-            }
             some.take(set, ruleNow);
-            return !some.fits();
+            return !some.fitsFrom(0, 0, 0);
         }
 
         int leaveOut(boolean back) {
@@ -1575,11 +1547,16 @@ public final class YesNoRays {
 
     /** The SYMMETRIES: where sides go, which are turned. */
     private static final class Turner {
+        private static final int SLOTS = 64;
+
         private final Told told;
         private final Web web;
         private final int[] images = new int[MOST_RAYS];
         private final int[] goesTo = new int[MOST_RAYS];
         private final int[] weights = new int[MOST_SIDES];
+        private final int[] reduced = new int[MOST_RAYS * MOST_SIDES];
+        private final int[] slotCodes = new int[SLOTS];
+        private final int[] slotBits = new int[SLOTS];
         private boolean known;
         private int turns;
 
@@ -1598,9 +1575,7 @@ public final class YesNoRays {
             }
             known = true;
             turns = 0;
-            for (int ray = 0; ray < MOST_RAYS; ray++) {
-                images[ray] = 0;
-            }
+            fillSlots();
             // Two bits a side tell where it goes; the fourth one stays, where there are three.
             for (int places = 0; places < 256; places++) {
                 int taken = 1 << (places & 3) | 1 << (places >> 2 & 3) | 1 << (places >> 4 & 3) | 1 << (places >> 6);
@@ -1610,6 +1585,43 @@ public final class YesNoRays {
             }
         }
 
+        private void fillSlots() {
+            for (int slot = 0; slot < SLOTS; slot++) {
+                slotCodes[slot] = 0;
+            }
+            for (int ray = 0; ray < MOST_RAYS; ray++) {
+                images[ray] = 0;
+                goesTo[ray] = 0;
+                if (has(web.in, ray)) {
+                    reduce(ray);
+                    int slot = slotOf(told.codes[ray]);
+                    if (slot >= 0 && slot < SLOTS) {
+                        slotCodes[slot] = told.codes[ray];
+                        slotBits[slot] = 1 << ray;
+                    }
+                }
+            }
+        }
+
+        private void reduce(int ray) {
+            int part = Math.max(1, at(told.common, ray));
+            for (int k = 0; k < MOST_SIDES; k++) {
+                int i = ray * MOST_SIDES + k;
+                if (i >= 0 && i < reduced.length) {
+                    reduced[i] = told.numberOf(ray, k) / part;
+                }
+            }
+        }
+
+        /** Where a code stands, or can stand: no ray has code 0, and far from all slots are taken. */
+        private int slotOf(int code) {
+            int slot = code & SLOTS - 1;
+            for (int i = 0; i < SLOTS && slotCodes[slot] != 0 && slotCodes[slot] != code; i++) {
+                slot = slot + 1 & SLOTS - 1;
+            }
+            return slot;
+        }
+
         // A ray turned all over is the same ray: so the first side is never turned, and each way counts twice.
         private void turnSides(int places) {
             for (int turned = 0; turned < 1 << told.sides; turned += 2) {
@@ -1617,7 +1629,7 @@ public final class YesNoRays {
                     int weight = Told.power(places >> 2 * k & 3);
                     weights[k] = has(turned, k) ? -weight : weight;
                 }
-                if (fits()) {
+                if (fitsAll()) {
                     turns += 2;
                     for (int ray = 0; ray < MOST_RAYS; ray++) {
                         images[ray] |= goesTo[ray];
@@ -1627,27 +1639,27 @@ public final class YesNoRays {
         }
 
         /** Whether each ray that is in comes to one that is in: goesTo has which. */
-        private boolean fits() {
-            for (int ray = 0; ray < MOST_RAYS; ray++) {
-                goesTo[ray] = 0;
+        private boolean fitsAll() {
+            for (int ray = 0; ray < told.size && ray < MOST_RAYS; ray++) {
                 if (has(web.in, ray)) {
-                    int image = imageOf(ray);
-                    if (image == NONE || !has(web.in, image)) {
+                    int image = imageOf(ray * MOST_SIDES);
+                    if (image == 0) {
                         return false;
                     }
-                    goesTo[ray] = 1 << image;
+                    goesTo[ray] = image;
                 }
             }
             return true;
         }
 
-        private int imageOf(int ray) {
-            int code = 0;
-            for (int k = 0; k < MOST_SIDES; k++) {
-                code += told.numberOf(ray, k) * weights[k];
+        private int imageOf(int i) {
+            if (i < 0 || i + 3 >= reduced.length) {
+                return 0;
             }
-            int part = at(told.common, ray);
-            return part == 0 ? NONE : told.find(Math.abs(code) / part);
+            int code = Math.abs(reduced[i] * weights[0] + reduced[i + 1] * weights[1]
+                    + reduced[i + 2] * weights[2] + reduced[i + 3] * weights[3]);
+            int slot = slotOf(code);
+            return slot >= 0 && slot < SLOTS && slotCodes[slot] == code ? slotBits[slot] : 0;
         }
 
         int kindCount() {
@@ -1661,7 +1673,7 @@ public final class YesNoRays {
         }
     }
 
-    /** A QUESTION, read once: each part of it is answered at once, with the set of rays that are IN for which it holds. */
+    /** A QUESTION: each part of it is answered as it is read, with the set of rays that are IN for which it holds. */
     private static final class Question {
         // A VALUE is a number itself, or one of these, which are above all numbers.
         private static final int RAY = 10000;
@@ -1678,23 +1690,28 @@ public final class YesNoRays {
         private final Tape tape;
         private final Told told;
         private final Web web;
-        private final Chooser chooser;
         private int fault;
         private boolean many;
+        private boolean asksYes;
+        private int yesSet;
         private int holds;
 
-        Question(Tape tape, Told told, Web web, Chooser chooser) {
+        Question(Tape tape, Told told, Web web) {
             this.tape = tape;
             this.told = told;
             this.web = web;
-            this.chooser = chooser;
         }
 
-        /** The fault, 0 if there is none; it is at the token at which the tape stands then. */
-        int read(int n) {
+        /**
+         * The fault, 0 if there is none; it is at the token at which the tape stands then. A question that asks for
+         * 'yes' is read a second time, with the choice, which is dear to find where nobody asks for it.
+         */
+        int read(int n, int yes) {
             tape.open(n);
             fault = 0;
             holds = 0;
+            asksYes = false;
+            yesSet = yes;
             many = tape.isWord("many");
             if (!many && !tape.isWord("first")) {
                 return CANT_STAND;
@@ -1821,6 +1838,7 @@ public final class YesNoRays {
             } else if (tape.isWord("frames")) {
                 return FRAMES;
             } else if (tape.isWord("yes")) {
+                asksYes = true;
                 return YES;
             }
             return NONE;
@@ -1836,7 +1854,7 @@ public final class YesNoRays {
                 case SQUARE: return told.dot(ray, ray);
                 case MEETS: return Integer.bitCount(at(web.upright, ray));
                 case FRAMES: return at(web.framesOf, ray);
-                case YES: return has(chooser.leastChoice(), ray) ? 1 : 0;
+                case YES: return has(yesSet, ray) ? 1 : 0;
                 default: return value;
             }
         }
