@@ -55,8 +55,10 @@ public final class NaiveTests {
                 found += spares ? 0 : 1;
                 sparing += spares ? 1 : 0;
                 compareRefused(x, new Naive(4, rays, (1 << 20) - 1, 0));
+                comparePartsOf(x, new Naive(4, rays, (1 << 20) - 1, 0));
                 x.rule(1);
                 compareRefused(x, new Naive(4, rays, (1 << 20) - 1, 1));
+                comparePartsOf(x, new Naive(4, rays, (1 << 20) - 1, 1));
             }
         }
         KIT.due("refused sets that spare rays", 4, sparing);
@@ -79,6 +81,22 @@ public final class NaiveTests {
         KIT.due(of + "most", most[0], x.most(0));
         KIT.due(of + "most, set", most[1], x.most(1));
         compareSymmetries(of, x, n);
+    }
+
+    /** Parts that lack up to three rays: all but refused, so that few choices are left. */
+    private static void comparePartsOf(YesNoRays x, Naive n) {
+        for (int a = 0; a < 20; a++) {
+            for (int b = 0; b <= a; b++) {
+                int set = n.in & ~(1 << a) & ~(1 << b) & ~(1 << (a + 7 * b) % 20);
+                KIT.due(n.said() + " rule " + n.rule + ": refused " + set, n.refused(set), x.isRefused(set));
+                if (b == 0) {
+                    x.only(set);
+                    KIT.due(n.said() + " rule " + n.rule + ": all refused " + set, n.refused(set) ? 1 : 0, x.count(9));
+                    compareTree(set + " of " + n.said() + ": ", x, new Naive(4, n.rays, set, n.rule));
+                    x.undo();
+                }
+            }
+        }
     }
 
     private static int[][] peres() {

@@ -31,7 +31,9 @@ public final class PromiseTests {
         undoing();
         asking();
         faultsOfQuestions();
-        wrongInputsOnAnEmptyObject();
+        wrongInputs("none told: ", new YesNoRays());
+        wrongInputs("five told: ", Kit.of(FIVE));
+        emptyObject();
         KIT.end();
     }
 
@@ -451,6 +453,9 @@ public final class PromiseTests {
         y.keep(4, false);
         KIT.due("25: one without a third", 2, y.lacking(0));
         KIT.due("25: one with a third, times something", 1, y.lacking(2));
+        YesNoRays nine = Kit.of("sides 3;ray 9 -1 0;ray 0 0 1;ray -1 -9 0;");
+        nine.keep(2, false);
+        KIT.due("25: a third that has a 9", 1, nine.lacking(2));
         YesNoRays z = Kit.of("sides 4;ray 1 0 0 0;ray 0 1 0 0;ray 0 0 1 0;ray 0 0 0 1;");
         z.keep(3, false);
         KIT.due("25: 4 sides", 3, z.lacking(0));
@@ -676,25 +681,30 @@ public final class PromiseTests {
         questionFault("many x=\u00ff", 1, 7);
     }
 
-    private static void wrongInputsOnAnEmptyObject() {
-        YesNoRays x = new YesNoRays();
+    private static void wrongInputs(String of, YesNoRays x) {
         for (int wrong : WRONG) {
-            wrongRay("ray", wrong, r -> x.ray(r, 0));
-            wrongRay("isIn", wrong, x::isIn);
-            wrongRay("product", wrong, r -> x.product(r, r));
-            wrongRay("meets", wrong, x::meets);
-            wrongRay("frame", wrong, x::frame);
-            wrongRay("choice", wrong, x::choice);
-            wrongRay("having", wrong, r -> x.having(r, 1));
-            wrongRay("alike", wrong, x::alike);
-            wrongRay("third", wrong, r -> x.third(r, r, 0));
-            wrongRay("far", wrong, r -> x.far(r, r));
-            wrongRay("keep", wrong, r -> x.keep(r, true));
-            wrongRay("proof", wrong, x::proof);
-            wrongRay("symmetries", wrong, x::symmetries);
-            wrongRay("tree", wrong, x::tree);
-            wrongRay("count", wrong, x::count);
+            wrongRay(of + "ray", wrong, r -> x.ray(r, 0));
+            wrongRay(of + "isIn", wrong, x::isIn);
+            wrongRay(of + "product", wrong, r -> x.product(r, r));
+            wrongRay(of + "meets", wrong, x::meets);
+            wrongRay(of + "frame", wrong, x::frame);
+            wrongRay(of + "choice", wrong, x::choice);
+            wrongRay(of + "having", wrong, r -> x.having(r, 1));
+            wrongRay(of + "alike", wrong, x::alike);
+            wrongRay(of + "third", wrong, r -> x.third(0, r, 0));
+            wrongRay(of + "third, the first", wrong, r -> x.third(r, 1, 0));
+            wrongRay(of + "far", wrong, r -> x.far(0, r));
+            wrongRay(of + "far, the first", wrong, r -> x.far(r, 0));
+            wrongRay(of + "keep", wrong, r -> x.keep(r, true));
+            wrongRay(of + "proof", wrong, x::proof);
+            wrongRay(of + "symmetries", wrong, x::symmetries);
+            wrongRay(of + "tree", wrong, x::tree);
+            wrongRay(of + "count", wrong, x::count);
         }
+    }
+
+    private static void emptyObject() {
+        YesNoRays x = new YesNoRays();
         KIT.dueThrow("only on an empty object", "bad", () -> x.only(1));
         KIT.dueThrow("isRefused on an empty object", "bad", () -> x.isRefused(1));
         KIT.due("only nothing on an empty object", 0, x.only(0));
@@ -706,6 +716,6 @@ public final class PromiseTests {
     }
 
     private static void wrongRay(String call, int ray, IntFunction<Object> run) {
-        KIT.dueThrow(call + " " + ray + " on an empty object", "none", () -> run.apply(ray));
+        KIT.dueThrow(call + " " + ray, "none", () -> run.apply(ray));
     }
 }
