@@ -17,9 +17,23 @@ public final class NaiveTests {
             int sides = 3 + i % 2;
             compare(random, sides, draw(random, sides, 20, i < 4 ? 1 : 2), 18);
         }
+        for (int rule = 0; rule < 2; rule++) {
+            compareSet(random, new Naive(4, told(Kit.NEVER_YES), Kit.ALL, rule), 18);
+        }
         planes(random);
         refusedOnes(random);
         KIT.end();
+    }
+
+    private static int[][] told(String text) {
+        YesNoRays x = Kit.of(text);
+        int[][] rays = new int[x.count(1)][x.count(0)];
+        for (int r = 0; r < rays.length; r++) {
+            for (int k = 0; k < rays[r].length; k++) {
+                rays[r][k] = x.ray(r, k);
+            }
+        }
+        return rays;
     }
 
     /** Rays of two planes that are upright on one another, in 4 sides: many frames, each two pairs. */
@@ -77,9 +91,7 @@ public final class NaiveTests {
         }
         compareTree(of, x, n);
         compareParity(of, x, n);
-        int[] most = n.most();
-        KIT.due(of + "most", most[0], x.most(0));
-        KIT.due(of + "most, set", most[1], x.most(1));
+        compareSpread(of, x, n);
         compareSymmetries(of, x, n);
     }
 
@@ -154,17 +166,20 @@ public final class NaiveTests {
     }
 
     private static void compare(Random random, int sides, int[][] rays, int evenFrames) {
-        YesNoRays x = objectOf(sides, rays);
         int all = (1 << rays.length) - 1;
         int out = random.nextInt() & random.nextInt() & random.nextInt() & all;
         int rule = random.nextInt(2);
         if (random.nextInt(3) == 0) {
             out = 0;
         }
-        x.rule(rule);
-        x.only(all & ~out);
-        Naive n = new Naive(sides, rays, all & ~out, rule);
-        String of = n.said() + " of " + rays.length + " rule " + rule + ": ";
+        compareSet(random, new Naive(sides, rays, all & ~out, rule), evenFrames);
+    }
+
+    private static void compareSet(Random random, Naive n, int evenFrames) {
+        YesNoRays x = objectOf(n.sides, n.rays);
+        x.rule(n.rule);
+        x.only(n.in);
+        String of = n.said() + " of " + n.rays.length + " rule " + n.rule + ": ";
         compareWeb(of, x, n);
         compareChoices(of, random, x, n);
         compareTree(of, x, n);
