@@ -522,7 +522,7 @@ public final class TextEdgeTests {
         x.only(0);
         kit.due("the same once more", 4, Kit.rays(x, Kit.AXES4));
         kit.due("all in again", 4, x.count(2));
-        kit.due("one that is upright on none", 1, Kit.rays(x, "sides 4;ray 1 2 3 4;"));
+        kit.due("two that aren't upright", 2, Kit.rays(x, "sides 4;ray 1 2 3 4;ray 1 0 0 0;"));
         kit.due("what was upright on ray 0 is gone", 0, x.meets(0));
         kit.due("fewer", 0, Kit.rays(x, "sides 3;"));
         kit.dueThrow("rays of before are gone", "none", () -> x.isIn(0));
