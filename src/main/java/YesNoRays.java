@@ -1350,7 +1350,7 @@ public final class YesNoRays {
                 }
             }
             int rest = set & ~(1 << pivot);
-            int with = worth[pivot] + heaviest(rest & ~barred[pivot], depth + 1);
+            int with = at(worth, pivot) + heaviest(rest & ~at(barred, pivot), depth + 1);
             int without = heaviest(rest, depth + 1);
             return Math.max(with, without);
         }

@@ -10,30 +10,21 @@ import java.util.Collections;
 import java.util.List;
 import java.util.Set;
 import java.util.TreeSet;
+import java.util.regex.Matcher;
+import java.util.regex.Pattern;
+import java.util.stream.Stream;
 
-/** The public face, as the document has it, and what of LANGUAGE.md can be seen from the source alone. */
+/** The public face, as ../shared/DOC.md has it, and nothing else that can be seen from outside. */
 public final class FaceTests {
     private static final Kit KIT = new Kit("FaceTests");
-    private static final String[] FACE = {
-        "int feed(int,int,int,int,int)", "int rays(int) bad", "int fault()", "int count(int) none",
-        "int ray(int,int) none", "boolean isIn(int) none", "int product(int,int) none", "int meets(int) none",
-        "int frame(int) none", "int choice(int) none", "int having(int,int) none", "int forced(int,int,int) none bad",
-        "int tree(int) none", "int spared(boolean)", "int fewest()", "boolean isRefused(int) bad", "int most(int) none",
-        "int parity()", "int proof(int) none", "int even()", "int symmetries(int) none", "int alike(int) none",
-        "int third(int,int,int) none", "int lacking(int) none", "int parts()", "int far(int,int) none",
-        "int apart(int) none", "int hues()", "int say()", "int said(int)", "boolean keep(int,boolean) none",
-        "int only(int) bad", "int rule(int) bad", "int undo()", "int ask(int) bad"};
-    private static final String[] BARRED = {"\\btry\\b", "\\bcatch\\b", "\\bfinally\\b", "->", "::", "\\bassert\\b",
-        "\\bsynchronized\\b", "\\bprotected\\b", "\\bThread\\b", "\\bRandom\\b", "\\bdouble\\b", "\\bfloat\\b",
-        "System\\.(?!arraycopy)", "Math\\.\\w+Exact", "\\bpackage\\b", "\\bvar\\b"};
 
     public static void main(String[] args) throws IOException {
-        face();
-        source(Files.readString(Path.of("src/main/java/YesNoRays.java")));
+        String doc = Files.readString(Path.of("../shared/DOC.md"));
+        face(doc.replaceAll("(?s).*```java\n|```.*", ""));
         KIT.end();
     }
 
-    private static void face() {
+    private static void face(String told) {
         KIT.due("the class's modifiers", Modifier.PUBLIC | Modifier.FINAL, YesNoRays.class.getModifiers());
         Set<String> publicNames = new TreeSet<>();
         List<String> found = new ArrayList<>();
@@ -44,9 +35,10 @@ public final class FaceTests {
                 publicNames.add(m.getName());
             }
         }
-        List<String> due = new ArrayList<>(List.of(FACE));
+        List<String> due = dueMethods(told);
         Collections.sort(due);
         Collections.sort(found);
+        KIT.due("how many methods", 35, due.size());
         KIT.due("the methods", due, found);
         List<String> shadows = new ArrayList<>();
         privateNames(YesNoRays.class, publicNames, shadows);
@@ -55,28 +47,47 @@ public final class FaceTests {
             privateNames(inside, publicNames, shadows);
         }
         KIT.due("private methods with a public one's name", List.of(), shadows);
-        KIT.due("classes", true, YesNoRays.class.getDeclaredClasses().length < 12);
-        for (Field f : YesNoRays.class.getDeclaredFields()) {
-            boolean isFace = f.getName().equals("NONE") || f.getName().equals("HIDDEN");
-            int modifiers = Modifier.PUBLIC | Modifier.STATIC | Modifier.FINAL;
-            KIT.due(f + "", true, isFace ? f.getModifiers() == modifiers : Modifier.isPrivate(f.getModifiers()));
-        }
+        constants(told);
         Constructor<?>[] made = YesNoRays.class.getDeclaredConstructors();
         KIT.due("constructors", 1, made.length);
         KIT.due("the constructor takes nothing", 0, made[0].getParameterCount());
         KIT.due("the constructor is public", Modifier.PUBLIC, made[0].getModifiers());
     }
 
+    /** The methods of the document's face, without the names of what they take. */
+    private static List<String> dueMethods(String told) {
+        List<String> found = new ArrayList<>();
+        Matcher m = Pattern.compile("public (\\w+ \\w+\\(.*\\).*);").matcher(told);
+        while (m.find()) {
+            found.add(m.group(1).replaceAll("(int|boolean) \\w+(?=[,)])", "$1"));
+        }
+        return found;
+    }
+
     private static String told(Method m) {
-        StringBuilder text = new StringBuilder(m.getReturnType() + " " + m.getName() + "(");
-        for (int i = 0; i < m.getParameterCount(); i++) {
-            text.append(i == 0 ? "" : ",").append(m.getParameterTypes()[i]);
+        List<String> takes = Stream.of(m.getParameterTypes()).map(Class::getSimpleName).toList();
+        List<String> throwsThese = Stream.of(m.getExceptionTypes()).map(Class::getSimpleName).toList();
+        return m.getReturnType() + " " + m.getName() + "(" + String.join(", ", takes) + ")"
+                + (throwsThese.isEmpty() ? "" : " throws " + String.join(", ", throwsThese));
+    }
+
+    private static void constants(String told) {
+        List<String> due = new ArrayList<>();
+        Matcher m = Pattern.compile("public (static final int \\w+ = \\S+);").matcher(told);
+        while (m.find()) {
+            due.add(m.group(1));
         }
-        text.append(')');
-        for (Class<?> e : m.getExceptionTypes()) {
-            text.append(e == IllegalArgumentException.class ? " bad" : " none");
+        List<String> found = new ArrayList<>();
+        for (Field f : YesNoRays.class.getDeclaredFields()) {
+            if (!Modifier.isPrivate(f.getModifiers())) {
+                KIT.due(f + " is public", true, Modifier.isPublic(f.getModifiers()));
+                int value = f.getName().equals("NONE") ? YesNoRays.NONE : YesNoRays.HIDDEN;
+                found.add(Modifier.toString(f.getModifiers()).replace("public ", "") + " " + f.getType() + " "
+                        + f.getName() + " = " + value);
+            }
         }
-        return text.toString();
+        KIT.due("how many constants", 2, due.size());
+        KIT.due("the constants", due, found);
     }
 
     private static void privateNames(Class<?> c, Set<String> names, List<String> shadows) {
@@ -85,15 +96,5 @@ public final class FaceTests {
                 shadows.add(c.getSimpleName() + "." + m.getName());
             }
         }
-    }
-
-    private static void source(String text) {
-        String code = text.replaceAll("(?s)/\\*.*?\\*/", "").replaceAll("//.*", "").replaceAll("\"[^\"]*\"", "\"\"");
-        for (String barred : BARRED) {
-            KIT.due("the source has " + barred, false, java.util.regex.Pattern.compile(barred).matcher(code).find());
-        }
-        KIT.due("imports", "import java.util.NoSuchElementException;",
-                String.join("\n", code.lines().filter(l -> l.startsWith("import")).toList()));
-        KIT.due("while loops, whose end is harder to see", false, code.contains("while"));
     }
 }
